@@ -48,6 +48,15 @@ public final class PromisesTest {
         return s;
     }
 
+    private static SweepChecker fullWithZeroAndOneLast() {
+        SweepChecker s = full();
+        s.drop();
+        s.drop();
+        s.gate(2, 0, 0, 0);
+        s.gate(5, 0, 0, 0);
+        return s;
+    }
+
     /** A wire that is 1 for assignment 255 alone; the wires before it join fewer inputs. */
     private static int allOf(SweepChecker s) {
         int wire = 0;
@@ -233,7 +242,10 @@ public final class PromisesTest {
         due("7: the constants", s.opposite(zero, one), true);
         due("7: itself", s.opposite(xor, xor), false);
         due("7: different only", s.opposite(0, 7), false);
-        due("7: all but assignment 255", s.opposite(all, one), false);
+        int none = noneOf(s);
+        due("7: the same for assignment 255 alone", s.opposite(all, one), false);
+        due("7: they differ for assignment 255 alone", s.opposite(all, zero), false);
+        due("7: the same for assignment 0 alone", s.opposite(none, one), false);
         for (int no : NO_WIRE_OF_A_NEW_OBJECT) {
             SweepChecker fresh = new SweepChecker();
             due("7: opposite(0, " + no + ")", fresh.opposite(0, no), false);
@@ -283,6 +295,7 @@ public final class PromisesTest {
         due("9: one, input", s.implies(one, 0), false);
         due("9: input, one", s.implies(0, one), true);
         due("9: fails at assignment 255 alone", s.implies(all, zero), false);
+        due("9: fails at assignment 0 alone", s.implies(noneOf(s), zero), false);
         for (int no : NO_WIRE_OF_A_NEW_OBJECT) {
             SweepChecker fresh = new SweepChecker();
             due("9: implies(0, " + no + ")", fresh.implies(0, no), false);
@@ -326,6 +339,11 @@ public final class PromisesTest {
         due("11: both", s.witness(s.gate(0, 5, 7, 0)), 160);
         due("11: zero", s.witness(s.gate(2, 0, 0, 0)), NONE);
         due("11: one", s.witness(s.gate(5, 0, 0, 0)), 0);
+        SweepChecker last = fullWithZeroAndOneLast();
+        due("11: zero beside one", last.witness(38), NONE);
+        last.drop();
+        last.gate(2, 0, 0, 0);
+        due("11: zero as the last wire", last.witness(39), NONE);
         for (int no : NO_WIRE_OF_A_NEW_OBJECT) {
             due("11: witness(" + no + ")", new SweepChecker().witness(no), BAD);
         }
@@ -344,6 +362,11 @@ public final class PromisesTest {
         due("12: inputs 7 and 2", s.differ(7, 2), 4);
         due("12: itself", s.differ(all, all), NONE);
         due("12: equal wires", s.differ(s.gate(0, 3, 3, 0), 3), NONE);
+        SweepChecker last = fullWithZeroAndOneLast();
+        due("12: the last two", last.differ(38, 39), 0);
+        last.drop();
+        last.gate(2, 0, 0, 0);
+        due("12: the last two, equal", last.differ(39, 38), NONE);
         for (int no : NO_WIRE_OF_A_NEW_OBJECT) {
             SweepChecker fresh = new SweepChecker();
             due("12: differ(0, " + no + ")", fresh.differ(0, no), BAD);
@@ -360,6 +383,7 @@ public final class PromisesTest {
         }
         int all = allOf(s);
         due("13: all", s.depends(all), 255);
+        due("13: none", s.depends(noneOf(s)), 255);
         due("13: two", s.depends(s.gate(6, 2, 7, 0)), 132);
         due("13: three", s.depends(s.gate(7, 0, 4, 5)), 49);
         due("13: a choice of the same", s.depends(s.gate(7, 0, 4, 4)), 16);
@@ -387,6 +411,8 @@ public final class PromisesTest {
         due("14: the least of several", s.first(10), 8);
         due("14: an input", s.first(11), 5);
         due("14: opposite does not count", s.first(12), 12);
+        due("14: input 0", s.first(s.gate(1, 0, 0, 0)), 0);
+        s.drop();
         due("14: no wire yet", s.first(13), BAD);
         s.drop();
         due("14: dropped", s.first(12), BAD);
@@ -465,6 +491,9 @@ public final class PromisesTest {
             due("17: rises once", s.follows(all, i), 1);
             due("17: falls once", s.follows(notAll, i), 2);
         }
+        int none = noneOf(s);
+        due("17: falls from assignment 0 alone", s.follows(none, 0), 2);
+        due("17: falls from assignment 0 alone", s.follows(none, 7), 2);
         due("17: implication, a", s.follows(imp, 0), 2);
         due("17: implication, b", s.follows(imp, 7), 1);
         due("17: implication, another", s.follows(imp, 3), 0);
